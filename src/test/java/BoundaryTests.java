@@ -145,7 +145,9 @@ public final class BoundaryTests {
     }
 
     private static int[] outside(int low, int high) {
-        return new int[] {LEAST_INT, LEAST_INT + 1, low - 2, low - 1, high + 1, high + 2, GREATEST_INT - 1, GREATEST_INT};
+        return new int[] {
+            LEAST_INT, LEAST_INT + 1, low - 2, low - 1, high + 1, high + 2, GREATEST_INT - 1, GREATEST_INT,
+        };
     }
 
     private static int tuple(int first, int second) {

@@ -133,12 +133,14 @@ public final class RefusalTests {
             scene.calls().accept(without);
             int answer = refused.call().on(with);
             String call = with.script.get(with.script.size() - 1);
-            check(refused.due() == ANY_ANSWER || answer == refused.due(), scene.name() + ": " + call + ", due is " + refused.due());
+            boolean asDue = refused.due() == ANY_ANSWER || answer == refused.due();
+            check(asDue, scene.name() + ": " + call + ", due is " + refused.due());
             with.script.remove(with.script.size() - 1);
             later.accept(with);
             later.accept(without);
             check(with.script.size() < MOST_CALLS, scene.name() + ": the test makes too many calls");
-            check(with.script.equals(without.script), scene.name() + ": after " + call + ": " + difference(with, without));
+            boolean alike = with.script.equals(without.script);
+            check(alike, scene.name() + ": after " + call + ": " + difference(with, without));
         }
     }
 
