@@ -234,6 +234,7 @@ public final class BoundaryTests {
         theAgeOutlastsManyEntries();
         theTimeBeginsAtZero();
         theTimeGrowsFar();
+        eachClientMayHaveATransactionAndWait();
     }
 
     private static void fieldsReachFromZeroToFifteen() {
@@ -405,6 +406,65 @@ public final class BoundaryTests {
         due(0, x.pass(49));
         due(1, x.next());
         due(1, x.pass(1));
+    }
+
+    // Bit c of the way tells whether client c commits or aborts.
+    private static void eachClientMayHaveATransactionAndWait() {
+        sentence = "Terms: Each client may have a TRANSACTION, and each may be WAITING";
+        for (int way = 0; way < 16; way++) {
+            Space x = fourTransactions();
+            for (int c = 0; c < 4; c++) {
+                due(NONE, x.ask(c, c % 2, templateOf(99)));
+            }
+            dueStates(x, 5, 6, 5, 6);
+            duePlaces(x, 0, 1, 2, 3);
+            for (int c = 0; c < 4; c++) {
+                yes(x.cancel(c));
+                dueSights(x, c, 20, 30 + c);
+            }
+            for (int c = 0; c < 4; c++) {
+                due(NONE, x.ask(0, TAKE_NOW, templateOf(20)));
+                yes((way >> c & 1) == 1 ? x.commit(c) : x.abort(c));
+                due(0, x.state(c));
+            }
+            dueSights(x, 0, whatTheFourLeave(way));
+            due(5, x.entries());
+            due(20, x.ask(0, TAKE_NOW, templateOf(20)));
+        }
+    }
+
+    // Client c takes 10 + c, marks 20 as all do, and puts 30 + c.
+    private static Space fourTransactions() {
+        Space x = new Space();
+        for (int c = 0; c < 4; c++) {
+            x.put(c, 10 + c, 0);
+        }
+        x.put(0, 20, 0);
+        for (int c = 0; c < 4; c++) {
+            yes(x.begin(c));
+            due(6 + c, x.put(c, 30 + c, 0));
+            due(10 + c, x.ask(c, TAKE, templateOf(10 + c)));
+            due(20, x.ask(c, READ, templateOf(20)));
+        }
+        dueStates(x, 4, 4, 4, 4);
+        return x;
+    }
+
+    private static int[] whatTheFourLeave(int way) {
+        int[] left = new int[5];
+        int size = 0;
+        for (int c = 0; c < 4; c++) {
+            if ((way >> c & 1) == 0) {
+                left[size++] = 10 + c;
+            }
+        }
+        left[size++] = 20;
+        for (int c = 0; c < 4; c++) {
+            if ((way >> c & 1) == 1) {
+                left[size++] = 30 + c;
+            }
+        }
+        return left;
     }
 
     // ---- Terms: seen and free

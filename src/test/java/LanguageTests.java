@@ -120,6 +120,8 @@ public final class LanguageTests {
         for (String word : FORBIDDEN) {
             must(!Pattern.compile("\\b" + word + "\\b").matcher(code).find(), "a word that the rules leave out: " + word);
         }
+        // Rule 3: a name of this form would be that of another class.
+        must(!Pattern.compile("\\b(?!TupleSpace\\b)[A-Z]\\w*[a-z]\\w*").matcher(code).find(), "no other class is named");
         must(!code.contains("->") && !code.contains("::"), "no lambda or method reference");
         must(!code.contains("\""), "no text");
         must(code.chars().allMatch(ch -> ch < 128), "plain characters");
